@@ -13,7 +13,8 @@ public final class KindsTest {
         kindsOf("all kinds", Shapes.ALL_KINDS,
                 REGULAR, END, SPLIT, REGULAR, END, START, MERGE, START, MERGE, START);
         // Level edges: of two corners at the same height the right one is below.
-        kindsOf("level notch in the top", new int[] {0, 0, 9, 0, 9, 9, 6, 9, 6, 4, 3, 4, 3, 9, 0, 9},
+        kindsOf("level notch in the top",
+                new int[] {0, 0, 9, 0, 9, 9, 6, 9, 6, 4, 3, 4, 3, 9, 0, 9},
                 REGULAR, END, REGULAR, START, MERGE, REGULAR, REGULAR, START);
         kindsOf("level notch in the bottom",
                 new int[] {0, 0, 3, 0, 3, 5, 6, 5, 6, 0, 9, 0, 9, 9, 0, 9},

@@ -2,7 +2,7 @@
 public final class LocateTest {
     private static final Due due = new Due();
 
-    /** A map of the points, its first row the highest: '.' outside, 'o' on the boundary, '#' inside. */
+    /** The highest row first: '.' is outside, 'o' on the boundary, '#' inside. */
     private static final String[] ALL_KINDS_MAP = {
         "...............",
         ".o.....o.....o.",

@@ -89,7 +89,8 @@ public final class RandomRunsTest {
         }
     }
 
-    private static void comparePoints(String name, MonotoneTriang shape, Reference model, int size) {
+    private static void comparePoints(
+            String name, MonotoneTriang shape, Reference model, int size) {
         if (size <= 30) {
             for (int x = -1; x <= size; x++) {
                 for (int y = -1; y <= size; y++) {
