@@ -209,8 +209,7 @@ public final class EditingTest {
         areaIs("a bow tie", 0, Shapes.BOW_TIE);
         areaIs("an uneven bow tie", -12, 0, 0, 4, 4, 4, 0, 0, 1);
         areaIs("equal corners", 16, Shapes.REPEATED);
-        areaIs("the whole plane", 8000000,
-                -1000, -1000, 1000, -1000, 1000, 1000, -1000, 1000);
+        areaIs("the whole plane", 8000000, Shapes.WHOLE_PLANE);
         int[] round = new int[64];
         for (int i = 0; i < 32; i++) {
             round[2 * i] = i % 4 == 0 || i % 4 == 3 ? -1000 : 1000;

@@ -70,8 +70,7 @@ public final class LocateTest {
     }
 
     private static void wholePlane() {
-        MonotoneTriang shape = Shapes.triangulated(
-                -1000, -1000, 1000, -1000, 1000, 1000, -1000, 1000);
+        MonotoneTriang shape = Shapes.triangulated(Shapes.WHOLE_PLANE);
         due.is("locate(999, -999)", shape.locate(999, -999), MonotoneTriang.LOC_INSIDE);
         due.is("locate(1000, -999)", shape.locate(1000, -999), MonotoneTriang.LOC_BOUNDARY);
         due.is("locate(-1000, 1000)", shape.locate(-1000, 1000), MonotoneTriang.LOC_BOUNDARY);

@@ -5,10 +5,22 @@ final class Shapes {
         32, 33, 1001, Integer.MAX_VALUE - 1, Integer.MAX_VALUE
     };
 
+    /** Ints that would look small and harmless if some of their bits were lost. */
+    static final int[] WRAPPING = {
+        256, 258, -254, 65536, 65538, -65534, 1 << 30, (1 << 30) + 2, -(1 << 30),
+        Integer.MIN_VALUE + 2, Integer.MIN_VALUE + 1000, Integer.MAX_VALUE - 1000
+    };
+
     static final int[] TRIANGLE = {0, 0, 6, 0, 0, 6};
     static final int[] SQUARE = {0, 0, 10, 0, 10, 10, 0, 10};
     static final int[] BOW_TIE = {0, 0, 4, 4, 4, 0, 0, 4};
     static final int[] REPEATED = {0, 0, 4, 0, 4, 4, 0, 0};
+
+    static final int[] FOLDED = {0, 0, 4, 0, 2, 0};
+    static final int[] WHOLE_PLANE = {-1000, -1000, 1000, -1000, 1000, 1000, -1000, 1000};
+
+    /** Counterclockwise, with 32 corners: a low bar with fifteen teeth, from right to left. */
+    static final int[] COMB = comb();
 
     /** Counterclockwise, with corners of all five kinds. */
     static final int[] ALL_KINDS = {
@@ -18,8 +30,35 @@ final class Shapes {
     private Shapes() {
     }
 
+    private static int[] comb() {
+        int[] corners = new int[64];
+        corners[0] = -1000;
+        corners[1] = -1000;
+        corners[2] = 900;
+        corners[3] = -1000;
+        for (int i = 2; i < 32; i++) {
+            corners[2 * i] = 900 - 60 * (i - 2);
+            corners[2 * i + 1] = i % 2 == 0 ? -999 : 1000;
+        }
+        return corners;
+    }
+
+    /** Counterclockwise, with n corners on a parabola: convex, and no two at one height. */
+    static int[] convex(int n) {
+        int[] corners = new int[2 * n];
+        for (int i = 0; i < n; i++) {
+            corners[2 * i] = i;
+            corners[2 * i + 1] = i * i;
+        }
+        return corners;
+    }
+
     static MonotoneTriang editing(int... coordinates) {
-        MonotoneTriang shape = new MonotoneTriang(MonotoneTriang.MAX_CAPACITY);
+        return editingUpTo(MonotoneTriang.MAX_CAPACITY, coordinates);
+    }
+
+    static MonotoneTriang editingUpTo(int capacity, int... coordinates) {
+        MonotoneTriang shape = new MonotoneTriang(capacity);
         for (int k = 0; k + 1 < coordinates.length; k += 2) {
             shape.addVertex(coordinates[k], coordinates[k + 1]);
         }
@@ -30,6 +69,21 @@ final class Shapes {
         MonotoneTriang shape = editing(coordinates);
         shape.triangulate();
         return shape;
+    }
+
+    static MonotoneTriang reopened(int... coordinates) {
+        MonotoneTriang shape = triangulated(coordinates);
+        shape.reopen();
+        return shape;
+    }
+
+    /** The same corners, beginning with another one. */
+    static int[] shifted(int[] coordinates, int shift) {
+        int[] moved = new int[coordinates.length];
+        for (int k = 0; k < moved.length; k++) {
+            moved[k] = coordinates[(k + 2 * shift) % moved.length];
+        }
+        return moved;
     }
 
     /** The same corners in the opposite sense of turning. */

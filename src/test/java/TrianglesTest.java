@@ -11,8 +11,7 @@ public final class TrianglesTest {
                 0, 0, 2, 0, 4, 0, 6, 0, 4, 2, 2, 4, 0, 6, 0, 4, 0, 2);
         trianglesOf("corner on the line between two others", 4, 10,
                 0, 0, 2, 0, 2, 1, 3, 2, 1, 2, 0, 3);
-        trianglesOf("the whole plane", 2, 8000000,
-                -1000, -1000, 1000, -1000, 1000, 1000, -1000, 1000);
+        trianglesOf("the whole plane", 2, 8000000, Shapes.WHOLE_PLANE);
         comb();
         spiral();
         notReady();
@@ -33,19 +32,10 @@ public final class TrianglesTest {
     }
 
     private static void comb() {
-        int[] corners = new int[64];
-        corners[0] = -1000;
-        corners[1] = -1000;
-        corners[2] = 900;
-        corners[3] = -1000;
-        for (int i = 2; i < 32; i++) {
-            corners[2 * i] = 900 - 60 * (i - 2);
-            corners[2 * i + 1] = i % 2 == 0 ? -999 : 1000;
-        }
-        MonotoneTriang shape = Shapes.editing(corners);
+        MonotoneTriang shape = Shapes.editing(Shapes.COMB);
         due.is("comb: triangulate()", shape.triangulate(), MonotoneTriang.RESULT_OK);
         int area = shape.area2();
-        trianglesOf("comb", 30, area < 0 ? -area : area, corners);
+        trianglesOf("comb", 30, area < 0 ? -area : area, Shapes.COMB);
     }
 
     private static void spiral() {

@@ -14,28 +14,7 @@ public final class TriangulateTest {
     }
 
     private static void judged(String name, int want, int... coordinates) {
-        int[] turned = Shapes.reversed(coordinates);
-        int n = coordinates.length / 2;
-        for (int shift = 0; shift < (n == 0 ? 1 : n); shift++) {
-            judgedOnce(name + " shifted by " + shift, want, shifted(coordinates, shift));
-            judgedOnce(name + " reversed, shifted by " + shift, want, shifted(turned, shift));
-        }
-    }
-
-    private static int[] shifted(int[] coordinates, int shift) {
-        int[] moved = new int[coordinates.length];
-        for (int k = 0; k < moved.length; k++) {
-            moved[k] = coordinates[(k + 2 * shift) % moved.length];
-        }
-        return moved;
-    }
-
-    private static void judgedOnce(String name, int want, int... coordinates) {
-        MonotoneTriang shape = Shapes.editing(coordinates);
-        due.is(name + ": triangulate()", shape.triangulate(), want);
-        int state = want == MonotoneTriang.RESULT_OK
-                ? MonotoneTriang.STATE_READY : MonotoneTriang.STATE_FAILED;
-        due.is(name + ": status()", shape.status(), state);
+        Judged.inEveryTurn(due, name, want, coordinates);
     }
 
     private static void simpleLists() {
