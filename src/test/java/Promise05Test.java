@@ -171,17 +171,9 @@ public final class Promise05Test {
             Shapes.reversed(Shapes.ALL_KINDS), Shapes.COMB, Shapes.reversed(Shapes.COMB)};
         for (int[] list : lists) {
             MonotoneTriang shape = Shapes.triangulated(list);
-            cornersAre("once", shape, list);
+            Corners.are(due, "once", shape, list);
             shape.triangulate();
-            cornersAre("twice", shape, list);
-        }
-    }
-
-    private static void cornersAre(String when, MonotoneTriang shape, int[] list) {
-        due.is(when + ": vertexCount()", shape.vertexCount(), list.length / 2);
-        for (int i = 0; i < list.length / 2; i++) {
-            due.is(when + ": vertexX(" + i + ")", shape.vertexX(i), list[2 * i]);
-            due.is(when + ": vertexY(" + i + ")", shape.vertexY(i), list[2 * i + 1]);
+            Corners.are(due, "twice", shape, list);
         }
     }
 

@@ -13,13 +13,6 @@ public final class Promise09Test {
         due.end();
     }
 
-    private static void cornersAre(String name, MonotoneTriang shape, int... coordinates) {
-        for (int i = 0; i < coordinates.length / 2; i++) {
-            due.is(name + ": vertexX(" + i + ")", shape.vertexX(i), coordinates[2 * i]);
-            due.is(name + ": vertexY(" + i + ")", shape.vertexY(i), coordinates[2 * i + 1]);
-        }
-    }
-
     private static void noCorner(String name, MonotoneTriang shape, int i) {
         due.is(name + ": vertexX(" + i + ")", shape.vertexX(i), 0);
         due.is(name + ": vertexY(" + i + ")", shape.vertexY(i), 0);
@@ -27,9 +20,9 @@ public final class Promise09Test {
 
     private static void answersTheCoordinates() {
         due.sentence("answers v_i.x, v_i.y if 0 <= i < n");
-        cornersAre("comb", Shapes.editing(Shapes.COMB), Shapes.COMB);
-        cornersAre("bounds", Shapes.editing(Shapes.WHOLE_PLANE), Shapes.WHOLE_PLANE);
-        cornersAre("one corner", Shapes.editing(-1000, 1000), -1000, 1000);
+        Corners.are(due, "comb", Shapes.editing(Shapes.COMB), Shapes.COMB);
+        Corners.are(due, "bounds", Shapes.editing(Shapes.WHOLE_PLANE), Shapes.WHOLE_PLANE);
+        Corners.are(due, "one corner", Shapes.editing(-1000, 1000), -1000, 1000);
     }
 
     private static void workInAnyState() {
@@ -37,9 +30,9 @@ public final class Promise09Test {
         int[][] lists = {{3, 5}, Shapes.REPEATED, Shapes.FOLDED, Shapes.BOW_TIE, Shapes.ALL_KINDS,
             Shapes.reversed(Shapes.ALL_KINDS), Shapes.COMB};
         for (int[] list : lists) {
-            cornersAre("editing", Shapes.editing(list), list);
-            cornersAre("judged", Shapes.triangulated(list), list);
-            cornersAre("reopened", Shapes.reopened(list), list);
+            Corners.are(due, "editing", Shapes.editing(list), list);
+            Corners.are(due, "judged", Shapes.triangulated(list), list);
+            Corners.are(due, "reopened", Shapes.reopened(list), list);
             noCorner("judged", Shapes.triangulated(list), -1);
             noCorner("judged", Shapes.triangulated(list), list.length / 2);
         }
@@ -106,7 +99,7 @@ public final class Promise09Test {
                 noCorner("reset", shape, i);
             }
             shape.addVertex(5, 6);
-            cornersAre("one appended again", shape, 5, 6);
+            Corners.are(due, "one appended again", shape, 5, 6);
             for (int i = 1; i <= 32; i++) {
                 noCorner("one appended again", shape, i);
             }

@@ -51,13 +51,7 @@ public final class Promise11Test {
         Situations.READY.forEach((name, maker) -> noneOutside(name, maker.get()));
         // A longer list was ready before: its kinds must not show from n on.
         for (int n = 3; n < 32; n++) {
-            MonotoneTriang shape = Shapes.triangulated(Shapes.convex(32));
-            shape.reopen();
-            while (shape.vertexCount() > n) {
-                shape.removeLast();
-            }
-            shape.triangulate();
-            noneOutside("shortened to " + n, shape);
+            noneOutside("shortened to " + n, Shapes.shortened(n));
         }
     }
 

@@ -65,13 +65,7 @@ public final class Promise12Test {
     private static void countsOnlyTheList() {
         due.sentence("the number of i in [0, n), after a longer list was ready before");
         for (int n = 3; n < 32; n++) {
-            MonotoneTriang shape = Shapes.triangulated(Shapes.convex(32));
-            shape.reopen();
-            while (shape.vertexCount() > n) {
-                shape.removeLast();
-            }
-            shape.triangulate();
-            countsAre("shortened to " + n, shape, 1, 0, 1, 0, n - 2);
+            countsAre("shortened to " + n, Shapes.shortened(n), 1, 0, 1, 0, n - 2);
         }
     }
 

@@ -32,22 +32,14 @@ public final class Promise13Test {
         countIs("flat corners on every side", 7,
                 0, 0, 2, 0, 4, 0, 6, 0, 4, 2, 2, 4, 0, 6, 0, 4, 0, 2);
         countIs("least area", 1, -1000, -1000, 1000, 999, -999, -999);
-        int[] flat = new int[64];
-        for (int i = 0; i < 31; i++) {
-            flat[2 * i] = i;
-        }
-        flat[63] = 1;
-        countIs("29 flat corners", 30, flat);
+        countIs("29 flat corners", 30, Shapes.FLAT);
     }
 
     private static void notFromAnEarlierList() {
         due.sentence("the triangulation of the present list, not of an earlier one");
-        MonotoneTriang shape = Shapes.triangulated(Shapes.convex(32));
-        for (int n = 31; n >= 3; n--) {
-            shape.reopen();
-            shape.removeLast();
-            shape.triangulate();
-            due.is("shortened to " + n + ": triangleCount()", shape.triangleCount(), n - 2);
+        for (int n = 3; n < 32; n++) {
+            due.is("shortened to " + n + ": triangleCount()",
+                    Shapes.shortened(n).triangleCount(), n - 2);
         }
     }
 

@@ -50,13 +50,7 @@ public final class Promise16Test {
         Situations.READY.forEach((name, maker) -> falseOutside(name, maker.get()));
         // A longer list was ready before: its corners must not be found from n on.
         for (int n = 3; n < 32; n++) {
-            MonotoneTriang shape = Shapes.triangulated(Shapes.convex(32));
-            shape.reopen();
-            while (shape.vertexCount() > n) {
-                shape.removeLast();
-            }
-            shape.triangulate();
-            falseOutside("shortened to " + n, shape);
+            falseOutside("shortened to " + n, Shapes.shortened(n));
         }
     }
 
@@ -141,6 +135,9 @@ public final class Promise16Test {
         pairIs("along the comb's bar", true, 0, 4, Shapes.COMB);
         pairIs("under the comb's last tooth", true, 0, 30, Shapes.COMB);
         pairIs("shortest", true, 0, 2, 0, 0, 5, -2, 1, 0, 5, 3);
+        // The middle is half a unit off the whole points around it, and some of these are outside.
+        pairIs("narrow", true, 0, 2, 0, 0, 7, 4, 5, 3, 0, 5);
+        pairIs("narrow, below zero", true, 0, 2, 0, 0, -7, -4, -5, -3, 0, -5);
     }
 
     private static void falseWhenTouchingTheBoundary() {
@@ -162,16 +159,11 @@ public final class Promise16Test {
         pairIs("along two edges", false, 0, 2, 0, 0, 3, 0, 6, 0, 0, 6);
         pairIs("along three edges", false, 0, 3, 0, 0, 2, 0, 4, 0, 6, 0, 3, 5);
         pairIs("along the closing edge", false, 1, 3, 6, 0, 9, 0, 5, 5, 0, 0);
-        int[] flat = new int[64];
-        for (int i = 0; i < 31; i++) {
-            flat[2 * i] = i;
-        }
-        flat[63] = 1;
         for (int i = 0; i <= 30; i++) {
             for (int j = i + 2; j <= 30; j++) {
-                pairIs("29 flat corners", false, i, j, flat);
+                pairIs("29 flat corners", false, i, j, Shapes.FLAT);
             }
-            pairIs("29 flat corners", i > 0 && i < 30, i, 31, flat);
+            pairIs("29 flat corners", i > 0 && i < 30, i, 31, Shapes.FLAT);
         }
     }
 
@@ -179,6 +171,9 @@ public final class Promise16Test {
         due.sentence("A segment that runs outside the region answers false");
         pairIs("dart", false, 1, 3, 0, 0, 6, 0, 3, 2, 0, 6);
         pairIs("dart with half middles", false, 1, 3, 0, 0, 5, -2, 1, 0, 5, 3);
+        // Here some of the whole points around the middle are inside.
+        pairIs("narrowly outside", false, 0, 2, 0, 0, 12, -20, 25, 9, 14, 5);
+        pairIs("narrowly outside, below zero", false, 0, 2, 0, 0, -12, 20, -25, -9, -14, -5);
         pairIs("from tooth to tooth", false, 3, 5, Shapes.COMB);
         pairIs("from tooth to tooth to tooth", false, 3, 7, Shapes.COMB);
         pairIs("beside the comb", false, 2, 31, Shapes.COMB);

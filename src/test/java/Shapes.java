@@ -22,6 +22,9 @@ final class Shapes {
     /** Counterclockwise, with 32 corners: a low bar with fifteen teeth, from right to left. */
     static final int[] COMB = comb();
 
+    /** Counterclockwise, with 32 corners, all but the last on the side at the bottom. */
+    static final int[] FLAT = flat();
+
     /** Counterclockwise, with corners of all five kinds. */
     static final int[] ALL_KINDS = {
         0, 0, 4, 0, 6, 2, 8, 0, 12, 0, 12, 8, 9, 3, 6, 8, 3, 3, 0, 8
@@ -40,6 +43,15 @@ final class Shapes {
             corners[2 * i] = 900 - 60 * (i - 2);
             corners[2 * i + 1] = i % 2 == 0 ? -999 : 1000;
         }
+        return corners;
+    }
+
+    private static int[] flat() {
+        int[] corners = new int[64];
+        for (int i = 0; i < 31; i++) {
+            corners[2 * i] = i;
+        }
+        corners[63] = 1;
         return corners;
     }
 
@@ -74,6 +86,16 @@ final class Shapes {
     static MonotoneTriang reopened(int... coordinates) {
         MonotoneTriang shape = triangulated(coordinates);
         shape.reopen();
+        return shape;
+    }
+
+    /** Ready with the corners of convex(n), after it was ready with those of convex(32). */
+    static MonotoneTriang shortened(int n) {
+        MonotoneTriang shape = reopened(convex(32));
+        for (int left = 32; left > n; left--) {
+            shape.removeLast();
+        }
+        shape.triangulate();
         return shape;
     }
 

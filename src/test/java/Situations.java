@@ -2,7 +2,7 @@ import java.util.LinkedHashMap;
 import java.util.Map;
 import java.util.function.Supplier;
 
-/** Ways to make an object in each of the three states, with few, some and as many corners as fit. */
+/** Ways to make an object in each of the three states, with no, some and all corners that fit. */
 final class Situations {
     static final Map<String, Supplier<MonotoneTriang>> EDITING = new LinkedHashMap<>();
     static final Map<String, Supplier<MonotoneTriang>> READY = new LinkedHashMap<>();

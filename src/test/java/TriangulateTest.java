@@ -82,21 +82,13 @@ public final class TriangulateTest {
                 shape.addVertex(list[k], list[k + 1]);
             }
             shape.triangulate();
-            cornersAre("after triangulate()", shape, list);
+            Corners.are(due, "after triangulate()", shape, list);
             due.is("reopen()", shape.reopen(), true);
-            cornersAre("after reopen()", shape, list);
+            Corners.are(due, "after reopen()", shape, list);
             for (int n = list.length / 2; n < 10; n++) {
                 due.is("capacity is kept: addVertex", shape.addVertex(n, n), n);
             }
             due.is("capacity is kept: addVertex when full", shape.addVertex(1, 1), -1);
-        }
-    }
-
-    private static void cornersAre(String when, MonotoneTriang shape, int[] list) {
-        due.is(when + ": vertexCount()", shape.vertexCount(), list.length / 2);
-        for (int i = 0; i < list.length / 2; i++) {
-            due.is(when + ": vertexX(" + i + ")", shape.vertexX(i), list[2 * i]);
-            due.is(when + ": vertexY(" + i + ")", shape.vertexY(i), list[2 * i + 1]);
         }
     }
 
