@@ -57,67 +57,30 @@ public final class RandomRunsTest {
     private static void compareList(List<int[]> corners, int size) {
         MonotoneTriang shape = new MonotoneTriang(32);
         Reference model = new Reference(32);
-        StringBuilder list = new StringBuilder();
-        for (int[] corner : corners) {
-            list.append('(').append(corner[0]).append(", ").append(corner[1]).append(") ");
-            due.is(list + "addVertex", shape.addVertex(corner[0], corner[1]),
-                    model.addVertex(corner[0], corner[1]));
-        }
-        due.is(list + "triangulate()", shape.triangulate(), model.triangulate());
-        compareGetters(list.toString(), shape, model);
-        comparePoints(list.toString(), shape, model, size);
-    }
-
-    private static void compareGetters(String name, MonotoneTriang shape, Reference model) {
-        due.is(name + "status()", shape.status(), model.status());
-        due.is(name + "vertexCount()", shape.vertexCount(), model.vertexCount());
-        due.is(name + "area2()", shape.area2(), model.area2());
-        due.is(name + "triangleCount()", shape.triangleCount(), model.triangleCount());
-        due.is(name + "triangleAreaSum()", shape.triangleAreaSum(), model.triangleAreaSum());
-        int n = model.vertexCount();
-        for (int i = -1; i <= n; i++) {
-            due.is(name + "vertexX(" + i + ")", shape.vertexX(i), model.vertexX(i));
-            due.is(name + "vertexY(" + i + ")", shape.vertexY(i), model.vertexY(i));
-            due.is(name + "vertexKind(" + i + ")", shape.vertexKind(i), model.vertexKind(i));
-            for (int j = -1; j <= n; j++) {
-                due.is(name + "isDiagonal(" + i + ", " + j + ")",
-                        shape.isDiagonal(i, j), model.isDiagonal(i, j));
-            }
-        }
-        for (int kind = -1; kind <= 6; kind++) {
-            due.is(name + "kindCount(" + kind + ")", shape.kindCount(kind), model.kindCount(kind));
-        }
+        String list = Compared.lists(due, corners, shape, model);
+        comparePoints(list, shape, model, size);
     }
 
     private static void comparePoints(
             String name, MonotoneTriang shape, Reference model, int size) {
         if (size <= 30) {
-            for (int x = -1; x <= size; x++) {
-                for (int y = -1; y <= size; y++) {
-                    comparePoint(name, shape, model, x, y);
-                }
-            }
+            Compared.grid(due, name, shape, model, size);
             return;
         }
         int n = model.vertexCount();
         for (int i = 0; i < n; i++) {
             for (int k = 0; k < 9; k++) {
                 int x = model.vertexX(i) + k % 3 - 1;
-                comparePoint(name, shape, model, x, model.vertexY(i) + k / 3 - 1);
+                Compared.point(due, name, shape, model, x, model.vertexY(i) + k / 3 - 1);
             }
             int[] point = randomPoint(size);
-            comparePoint(name, shape, model, point[0], point[1]);
-            comparePoint(name, shape, model, point[0], model.vertexY(i));
-            comparePoint(name, shape, model, model.vertexX(i), point[1]);
+            Compared.point(due, name, shape, model, point[0], point[1]);
+            Compared.point(due, name, shape, model, point[0], model.vertexY(i));
+            Compared.point(due, name, shape, model, model.vertexX(i), point[1]);
             int j = (i + 1) % n;
-            comparePoint(name, shape, model, (model.vertexX(i) + model.vertexX(j)) / 2,
+            Compared.point(due, name, shape, model, (model.vertexX(i) + model.vertexX(j)) / 2,
                     (model.vertexY(i) + model.vertexY(j)) / 2);
         }
-    }
-
-    private static void comparePoint(
-            String name, MonotoneTriang shape, Reference model, int x, int y) {
-        due.is(name + "locate(" + x + ", " + y + ")", shape.locate(x, y), model.locate(x, y));
     }
 
     /** One object through all its states, with every answer looked at after every call. */
@@ -146,9 +109,9 @@ public final class RandomRunsTest {
                 due.is(name + "addVertex(" + point[0] + ", " + point[1] + ")",
                         shape.addVertex(point[0], point[1]), model.addVertex(point[0], point[1]));
             }
-            compareGetters(name, shape, model);
-            comparePoint(name, shape, model, random.nextInt(12), random.nextInt(12));
-            comparePoint(name, shape, model, random.nextInt(), random.nextInt(12));
+            Compared.getters(due, name, shape, model);
+            Compared.point(due, name, shape, model, random.nextInt(12), random.nextInt(12));
+            Compared.point(due, name, shape, model, random.nextInt(), random.nextInt(12));
         }
     }
 }

@@ -71,10 +71,14 @@ final class Shapes {
 
     static MonotoneTriang editingUpTo(int capacity, int... coordinates) {
         MonotoneTriang shape = new MonotoneTriang(capacity);
+        append(shape, coordinates);
+        return shape;
+    }
+
+    static void append(MonotoneTriang shape, int... coordinates) {
         for (int k = 0; k + 1 < coordinates.length; k += 2) {
             shape.addVertex(coordinates[k], coordinates[k + 1]);
         }
-        return shape;
     }
 
     static MonotoneTriang triangulated(int... coordinates) {

@@ -77,10 +77,7 @@ public final class TriangulateTest {
         int[][] lists = {Shapes.ALL_KINDS, Shapes.reversed(Shapes.ALL_KINDS), {}, {7, -7},
             Shapes.REPEATED, Shapes.BOW_TIE};
         for (int[] list : lists) {
-            MonotoneTriang shape = new MonotoneTriang(10);
-            for (int k = 0; k < list.length; k += 2) {
-                shape.addVertex(list[k], list[k + 1]);
-            }
+            MonotoneTriang shape = Shapes.editingUpTo(10, list);
             shape.triangulate();
             Corners.are(due, "after triangulate()", shape, list);
             due.is("reopen()", shape.reopen(), true);
